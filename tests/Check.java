@@ -14,8 +14,8 @@ final class Check {
         System.out.println(call + " answered " + got + ", due is " + want);
     }
 
-    static void holds(String what, boolean true_) {
-        same(what, true_ ? 1 : 0, 1);
+    static void holds(String what, boolean held) {
+        same(what, held ? 1 : 0, 1);
     }
 
     /** Puts a text on the tape, byte by byte in fives. */

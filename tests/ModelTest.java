@@ -22,10 +22,47 @@ public final class ModelTest {
     public static void main(String[] args) {
         for (int seed = 0; seed < RUNS; seed++) {
             ModelTest run = new ModelTest(seed);
+            if (seed % 8 != 0) run.define();
             while (run.calls.size() < CALLS) run.step();
         }
         texts();
+        games();
         Check.end("ModelTest");
+    }
+
+    /** All that is asked of a position, for all positions of the known games and of some more. */
+    private static void games() {
+        Random random = new Random(11);
+        for (int i = 0; i < 80; i++) {
+            String text = i < KNOWN.length ? KNOWN[i] : randomText(random);
+            EndgameTable program = Check.of(text);
+            Model model = new Model();
+            for (char sign : text.toCharArray()) model.feed(1, sign);
+            model.define();
+            for (int index = 0; index < 4394; index++) {
+                Check.same(text + ": load(" + index + ")", program.load(index), model.load(index));
+                if (model.load(index) >= 0) position(text + " " + index, program, model);
+            }
+        }
+    }
+
+    private static void position(String name, EndgameTable program, Model model) {
+        for (int what = 0; what <= 13; what++) {
+            Check.same(name + ": board(" + what + ")", program.board(what), model.board(what));
+        }
+        for (int move = model.board(7); move >= 0; move--) {
+            for (int what = 0; what <= 7; what++) {
+                Check.same(name + ": move(" + move + ", " + what + ")", program.move(move, what), model.move(move, what));
+            }
+        }
+        int moves = model.line(-1);
+        Check.same(name + ": best()", program.best(), model.best());
+        Check.same(name + ": line(-1)", program.line(-1), moves);
+        Check.same(name + ": line(" + moves + ")", program.line(moves), model.line(moves));
+        for (int depth = 0; depth <= 2; depth++) {
+            Check.same(name + ": search(" + depth + ")", program.search(depth), model.search(depth));
+        }
+        Check.same(name + ": unlike()", program.unlike(), model.unlike());
     }
 
     /** Error positions of many texts near the form of a game, without the cost of the games themselves. */

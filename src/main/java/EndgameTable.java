@@ -367,23 +367,18 @@ public final class EndgameTable {
         }
 
         private boolean readHoles() {
-            if (!readHole()) return false;
-            for (int i = 0; i < MOST_BYTES && take(','); i++) {
-                if (!readHole()) return false;
+            for (int i = 0; i < MOST_BYTES; i++) {
+                int begin = at;
+                int square = readNumber();
+                if (square < 0) return false;
+                if (square >= width * height) {
+                    at = begin;
+                    return false;
+                }
+                holes |= 1 << square;
+                if (!take(',')) return true;
             }
-            return true;
-        }
-
-        private boolean readHole() {
-            int begin = at;
-            int square = readNumber();
-            if (square < 0) return false;
-            if (square >= width * height) {
-                at = begin;
-                return false;
-            }
-            holes |= 1 << square;
-            return true;
+            return false;
         }
 
         /** A digit behind a 0 is left to the caller, which finds it wrong where it stands. */
@@ -643,8 +638,9 @@ public final class EndgameTable {
             side = index & 1;
             occupied = 0;
             for (int man = 0; man < places.length; man++) {
-                places[man] = rules.squareOf(index, man);
-                if (isOnBoard(man)) occupied |= 1 << places[man];
+                int square = rules.squareOf(index, man);
+                places[man] = square;
+                if (square < rules.squares) occupied |= 1 << square;
             }
         }
 
@@ -676,7 +672,7 @@ public final class EndgameTable {
             return !isAttacked(1 - side);
         }
 
-        /** Whether the royal man of a side is attacked. */
+        /** Whether the royal man of a side is attacked; no way begins where the captured men stand. */
         boolean isAttacked(int royalSide) {
             int royal = placeOf(rules.firstMan(royalSide));
             int attackers = 1 - royalSide;
