@@ -8,7 +8,8 @@ public final class ModelTest {
     private static final int[] WILD = {Integer.MIN_VALUE, Integer.MAX_VALUE, -1, -2, -3, 13, 99, 4394, -100, 1 << 30};
     private static final String[] SIZES = {"22", "23", "24", "25", "26", "32", "33", "34", "42", "43", "52", "62"};
     private static final String[] KNOWN = {"34;kr-k", "33;k-kp;l;m5", "33;kp-k;w", "42;qn-k;x3,4;m2", "33;rb-n",
-        "62;a-dd;w", "43;kq-k;m3", "26;kr-k;l", "34;kp-p;l", "33;ww-w;w", "52;k-kk;w;m1", "33;k-q;x4", "34;kn-k;l;m0"};
+        "62;a-dd;w", "43;kq-k;m3", "26;kr-k;l", "34;kp-p;l", "33;ww-w;w", "52;k-kk;w;m1", "33;k-q;x4", "34;kn-k;l;m0",
+        "26;r-kw;x9;w", "34;q-qw;x7"};
 
     private final Random random;
     private final EndgameTable program = new EndgameTable();

@@ -81,6 +81,11 @@ public final class ValueTest {
             Check.same("after " + k, x.board(0), line[k]);
         }
         Check.same("an end", x.board(7), 0);
+        EndgameTable drawn = Check.of("26;r-kw;x9;w");
+        drawn.load(2649);
+        Check.same("a long drawn line", drawn.line(-1), 57);
+        Check.holds("its last position", drawn.line(57) >= 0);
+        Check.same("none behind it", drawn.line(58), -1);
     }
 
     /** White's alfil never moves: beside a wazir it is lost, on a diagonal with one it is stalemate. */

@@ -4,6 +4,7 @@ import java.util.Arrays;
 public final class EndgameTable {
     public static final int NONE = -1, BAD = -2, STATE = -3, FULL = -4;
 
+    /** The document's -5: there is no such thing here, and no error. */
     private static final int ABSENT = -5;
     private static final int WRONG_TEXT = -100;
     private static final int MOST_FED = 5, MOST_BYTES = 40, GREATEST_BYTE = 127;
@@ -23,11 +24,9 @@ public final class EndgameTable {
     private final Play play = new Play(), keptPlay = new Play();
     private boolean kept;
 
-    /** Creates a tablebase without a game. */
     public EndgameTable() {
     }
 
-    /** Appends bytes to the tape. */
     public int feed(int n, int a, int b, int c, int d, int e) {
         if (n < 1 || n > MOST_FED) return BAD;
         if (!isByte(a) || !isByte(b) || !isByte(c) || !isByte(d) || !isByte(e)) return BAD;
@@ -40,7 +39,6 @@ public final class EndgameTable {
         return fed;
     }
 
-    /** Reads the game on the tape, in place of an earlier one. */
     public int define() {
         Reader text = new Reader(tape, fed);
         fed = 0;
@@ -52,7 +50,6 @@ public final class EndgameTable {
         return Integer.bitCount(free.rules.ground);
     }
 
-    /** Returns a property of the game. */
     public int game(int what) {
         if (table == null) return STATE;
         Rules rules = table.rules;
@@ -70,7 +67,6 @@ public final class EndgameTable {
         }
     }
 
-    /** Puts a position on the board, with which a game begins. */
     public int setup(int a, int b, int c, int side) {
         if (table == null) return STATE;
         Rules rules = table.rules;
@@ -82,7 +78,6 @@ public final class EndgameTable {
         return index;
     }
 
-    /** Puts a position on the board by its index. */
     public int load(int index) {
         if (table == null) return STATE;
         if (!table.isPossible(index)) return ABSENT;
@@ -90,7 +85,6 @@ public final class EndgameTable {
         return index & 1;
     }
 
-    /** Returns a property of the position on the board. */
     public int board(int what) {
         if (!isPlaying()) return STATE;
         int index = play.present();
@@ -109,7 +103,6 @@ public final class EndgameTable {
         }
     }
 
-    /** Returns a property of a legal move. */
     public int move(int move, int what) {
         if (!isPlaying()) return STATE;
         int from = play.present();
@@ -128,7 +121,6 @@ public final class EndgameTable {
         }
     }
 
-    /** Makes a legal move on the board. */
     public int make(int move) {
         if (!isPlaying()) return STATE;
         int to = table.stepOf(play.present(), move);
@@ -138,21 +130,18 @@ public final class EndgameTable {
         return play.occurrences();
     }
 
-    /** Takes the latest move back. */
     public int back() {
         if (!isPlaying() || play.made() < 1) return STATE;
         play.removeLast();
         return play.made();
     }
 
-    /** Returns the best move of the position on the board. */
     public int best() {
         if (!isPlaying()) return STATE;
         int step = table.bestStep(play.present());
         return step < 0 ? ABSENT : step;
     }
 
-    /** Returns a position of the best line from the position on the board. */
     public int line(int k) {
         if (!isPlaying()) return STATE;
         if (k == 0 || k < -1) return NONE;
@@ -168,7 +157,6 @@ public final class EndgameTable {
         return Table.searched(table, play.present(), depth);
     }
 
-    /** Returns how many positions have a value. */
     public int positions(int side, int value, int captured) {
         if (table == null) return STATE;
         if (side < 0 || side > 1 || value < -1 || value > 1) return NONE;
@@ -176,7 +164,6 @@ public final class EndgameTable {
         return table.numberWithValue(side, value, captured);
     }
 
-    /** Returns how many positions have a distance. */
     public int spread(int kind, int side, int distance) {
         if (table == null) return STATE;
         if (kind < 0 || kind > 1 || side < 0 || side > 1) return NONE;
@@ -184,7 +171,6 @@ public final class EndgameTable {
         return table.numberWithDistance(kind, side, distance);
     }
 
-    /** Returns the greatest distance, or the position with it. */
     public int longest(int kind, int what) {
         if (table == null) return STATE;
         if (kind < 0 || kind > 1 || what < 0 || what > 1) return NONE;
@@ -193,20 +179,17 @@ public final class EndgameTable {
         return what == 1 ? index : table.distanceOf(kind, index);
     }
 
-    /** Returns a mutual zugzwang, or their number. */
     public int zugzwang(int i) {
         if (table == null) return STATE;
         if (i < -1) return NONE;
         return i == -1 ? table.mutualZugzwangs() : table.mutualZugzwang(i);
     }
 
-    /** Returns how many images of the position on the board are valued unlike it, or unlike their own search. */
     public int unlike() {
         if (!isPlaying()) return STATE;
         return table.unlikeImages(play.present());
     }
 
-    /** Takes a snapshot, in place of an earlier one. */
     public int image() {
         kept = true;
         keptTable = table;
@@ -214,7 +197,6 @@ public final class EndgameTable {
         return table == null ? 0 : 1;
     }
 
-    /** Restores the snapshot, which stays. */
     public int undo() {
         if (!kept) return STATE;
         table = keptTable;
@@ -222,7 +204,6 @@ public final class EndgameTable {
         return table == null ? 0 : 1;
     }
 
-    /** Returns a count. */
     public int count(int what) {
         switch (what) {
             case 0: return play.made();
@@ -545,13 +526,17 @@ public final class EndgameTable {
         }
 
         private static int between(Rules rules, int from, int across, int up) {
-            int stride = Integer.signum(across) + Integer.signum(up) * rules.width;
+            int stride = direction(across) + direction(up) * rules.width;
             int length = Math.max(Math.abs(across), Math.abs(up));
             int way = 0;
             for (int i = 1; i < length; i++) {
                 way |= 1 << (from + i * stride);
             }
             return (way & ~rules.ground) == 0 ? way : NONE;
+        }
+
+        private static int direction(int by) {
+            return by > 0 ? 1 : by < 0 ? -1 : 0;
         }
     }
 
