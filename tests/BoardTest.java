@@ -214,6 +214,13 @@ public final class BoardTest {
         Check.same("a pinned knight has no moves", targets(pinned, 1), 0);
         pinned.setup(1, 4, 8, 0);
         Check.same("a free one has two", targets(pinned, 1), bits(9, 11));
+        EndgameTable between = Check.of("34;kw-r");
+        between.setup(0, 4, 2, 0);
+        Check.same("attacked in its row", between.board(6), 1);
+        Check.same("a man that steps between, there alone", targets(between, 1), bits(1));
+        between.setup(1, 6, 10, 0);
+        Check.same("attacked in its column", between.board(6), 1);
+        Check.same("the square between in the column", targets(between, 1), bits(7));
     }
 
     /** The squares to which White's second man goes, the first one on 0, Black's royal man as told. */

@@ -14,6 +14,12 @@ final class Check {
         System.out.println(call + " answered " + got + ", due is " + want);
     }
 
+    static void text(String what, String got, String want) {
+        boolean same = got.equals(want);
+        if (!same) System.out.println(what + " is " + got + ", due is " + want);
+        holds(what, same);
+    }
+
     static void holds(String what, boolean held) {
         same(what, held ? 1 : 0, 1);
     }

@@ -11,10 +11,8 @@ import java.util.Map;
  * The room that the program takes: the row of all moves is long enough for every game, and a run of 512 calls makes few
  * objects and keeps few.
  *
- * <p>With 8 squares or fewer left by the holes there are at most 8 * 7 * 6 ways to put three men, with at most 12 + 7
- * moves of the two sides, and 8 * 7 ways to put two, with at most 7 + 7, so at most 7168 moves. With 9 squares or more
- * the greatest number is 6000 (62;k-kn): all games with up to 3 holes were counted once, which takes minutes; here
- * those without holes are counted again.
+ * <p>The greatest number of moves is 6000 (62;k-kn): all games, with every set of holes, were counted once, which takes
+ * minutes; here those without holes are counted again.
  */
 public final class RoomTest {
     private static final int MOST_STEPS = 7200, MOST_KEPT = 80000, MOST_BYTES_MADE = 1600000;

@@ -175,6 +175,8 @@ public final class TextTest {
         Check.same("square", Check.of("33;k-k").game(7), 8);
         Check.same("oblong", Check.of("34;k-k").game(7), 4);
         Check.same("square with a pawn", Check.of("33;k-kp").game(7), 2);
+        Check.same("a pawn that is White's royal man", Check.of("33;p-k").game(7), 2);
+        Check.same("a pawn that is Black's", Check.of("33;k-p").game(7), 2);
         Check.same("oblong with a pawn", Check.of("43;kp-k").game(7), 2);
         Check.same("a corner", Check.of("33;k-k;x0").game(7), 2);
         Check.same("the middle", Check.of("33;k-k;x4").game(7), 8);

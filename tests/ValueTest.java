@@ -27,6 +27,7 @@ public final class ValueTest {
         followsDistances("34;kr-k");
         followsDistances("33;kp-k;w");
         followsDistances("43;kq-k;m3");
+        followsDistances("23;f-nw;w");
     }
 
     /** Of all positions: the best move keeps the value, and no move before it is as good, none behind it better. */
@@ -186,6 +187,23 @@ public final class ValueTest {
         Check.same("drawn ones neither", Check.of("22;w-w").zugzwang(-1), 0);
         Check.same("nor what is possible with one side alone", Check.of("22;w-f").zugzwang(-1), 0);
         Check.same("better if White moves", Check.of("22;a-ww").zugzwang(-1), 0);
+        zugzwangsFit("33;k-kp;l;m5");
+        zugzwangsFit("33;kp-k;w");
+        zugzwangsFit("34;kr-k");
+    }
+
+    private static void zugzwangsFit(String text) {
+        EndgameTable x = Check.of(text);
+        int found = 0;
+        for (int index = 0; index < 4394; index += 2) {
+            if (x.load(index) < 0) continue;
+            int white = x.board(2);
+            if (x.load(index + 1) < 0 || white >= -x.board(2)) continue;
+            Check.same(text + ": zugzwang(" + found + ")", x.zugzwang(found), index);
+            found++;
+        }
+        Check.same(text + ": their number", x.zugzwang(-1), found);
+        Check.same(text + ": none behind the last", x.zugzwang(found), -1);
     }
 
     /** A capture or an end is a conversion; the numbers are checked move by move. */

@@ -150,7 +150,6 @@ public final class EndgameTable {
         return k <= moves ? table.followed(k) : NONE;
     }
 
-    /** Searches the position on the board forward. */
     public int search(int depth) {
         if (!isPlaying()) return STATE;
         if (depth < 0 || depth > MOST_DEPTH) return BAD;
